@@ -1,0 +1,142 @@
+/** Promise 3: compile. */
+public final class CompileTest {
+    public static void main(String[] args) {
+        cellsOfTheForms();
+        orderOfTheInstructions();
+        knownLetters();
+        emptiesTheText();
+        whatThrowsLeavesTheMachine();
+        makesTheMachineIdle();
+        roomForTheCode();
+        Session.end();
+    }
+
+    private static void cellsOfTheForms() {
+        Session s = new Session(250);
+        s.compiles("7", 3);
+        s.compiles("-0007", 3);
+        s.compiles("'a", 3);
+        s.compiles("'-12", 3);
+        s.compiles("'()", 3);
+        s.compiles("'(1 (2) () (a (b)))", 11);
+        s.compiles("(^ '(1))", 5);
+        s.compiles("(_ 1)", 4);
+        s.compiles("(! 1)", 4);
+        s.compiles("(. 1 2)", 6);
+        s.compiles("(+ 1 -2)", 6);
+        s.compiles("(- 1 2)", 6);
+        s.compiles("(* 1 2)", 6);
+        s.compiles("(= 1 2)", 6);
+        s.compiles("(< 1 2)", 6);
+        s.compiles("(? 1 2 3)", 12);
+        s.compiles("(\\ () 1)", 6);
+        s.compiles("(\\ (x y z) z)", 6);
+        s.compiles("(1)", 6);
+        s.compiles("(-1 2)", 9);
+        s.compiles("('a 2 3 4)", 15);
+        s.compiles("(: 1 (x 2))", 12);
+        s.compiles("(: x (x 2) (y 3) (z 4))", 18);
+        s.compiles("(; 1 (x (\\ () 2)))", 16);
+        s.compiles("(; 1 (x (\\ () 2)) (y (\\ () y)) (z (\\ () x)))", 28);
+    }
+
+    private static void orderOfTheInstructions() {
+        Session s = new Session(250);
+        s.traces("(+ (! 1) (* 2 3))", "1 12 1 1 17 15 19");
+        s.traces("(- 1 (^ '(2)))", "1 1 10 16 19");
+        s.traces("(= (< 1 2) 3)", "1 1 18 1 14 19");
+        s.traces("(. (! 1) (_ '(2)))", "1 11 1 12 13 19");
+        s.traces("(? 1 (! 2) 3)", "1 8 1 12 9 19");
+        s.traces("(? 0 2 (! (! 3)))", "1 8 1 12 12 9 19");
+        s.traces("((\\ (x y) x) (! 1) 2)", "1 1 13 1 12 13 3 4 2 5 19");
+        s.traces("(: (+ x y) (x (! 1)) (y 2))", "1 1 13 1 12 13 3 4 2 2 15 5 19");
+        s.traces("(; (f 1) (f (\\ (n) n)))", "6 1 3 13 3 7 1 1 13 2 4 2 5 5 19");
+    }
+
+    private static void knownLetters() {
+        Session s = new Session(250);
+        s.results("(((\\ (a b c) (\\ (d e) (. a (. b (. c (. d e)))))) 1 2 3) 4 5)", "(1 2 3 4 . 5)");
+        s.results("((\\ (x) ((\\ (x) x) (+ x 1))) 5)", "6");
+        s.results("((\\ (x) ((\\ () x))) 5)", "5");
+        s.results("(: (: (. x y) (x y) (y x)) (x 1) (y 2))", "(2 . 1)");
+        s.results("(: (: (+ x y) (x (* x 10))) (x 1) (y 2))", "12");
+        s.results("((\\ (x) (; (f x) (f (\\ (n) (. x n))))) 3)", "(3 . 3)");
+        s.results("(; (f 1) (f (\\ (f) f)))", "1");
+        s.results("(; (a) (a (\\ () (b))) (b (\\ () (c))) (c (\\ () 'z)))", "z");
+        s.results("(: (; (f y) (f (\\ (x) (g (+ x y)))) (g (\\ (x) (* x y)))) (y 3))", "18");
+        s.fails("(: x (y x))", 3);
+        s.fails("(: x (x x))", 8);
+        s.fails("(: y (x 1) (y x))", 14);
+        s.fails("((\\ (x) x) x)", 11);
+        s.fails("(. ((\\ (x) x) 1) (\\ (y) x))", 24);
+        s.fails("(; 1 (f (\\ (n) m)))", 15);
+        s.fails("(. (; 1 (f (\\ () f))) f)", 22);
+        s.fails("(. a b)", 3);
+        s.fails("(1 2 a b)", 5);
+    }
+
+    private static void emptiesTheText() {
+        Session s = new Session(20);
+        s.compiles("1", 3);
+        s.compiles("(! 1)", 4);
+        s.fails("(", 1);
+        s.fails("x", 0);
+        s.hasNoRoomFor("(1 (2 3 4 5) 6)");
+        s.compiles("1", 3);
+        s.fails("", 0);
+    }
+
+    private static void whatThrowsLeavesTheMachine() {
+        Session s = new Session(20);
+        s.load("(+ 1 (* 2 3))");
+        s.machine.start();
+        s.run(3);
+        s.fails(")", 0);
+        s.fails("(+ 1 a)", 5);
+        s.hasNoRoomFor("(1 (2 3 4 5) 6)");
+        s.counts("behind what threw", 12, 12, 0, 0, 3, 3, 0);
+        Session.due("state behind what threw", s.machine.state(), 1);
+        Session.due("next behind what threw", s.machine.next(), 17);
+        Session.due("steps behind what threw", s.run(200), 3);
+        Session.due("result", s.shown(), "7");
+        s.hasNoRoomFor("(1 (2 3 4 5) 6)");
+        s.fails("a", 0);
+        Session.due("result behind what threw", s.shown(), "7");
+        Session.due("start behind what threw", s.machine.start(), true);
+        Session.due("steps behind what threw", s.run(200), 6);
+        Session.due("result", s.shown(), "7");
+        Session none = new Session(20);
+        none.hasNoRoomFor("(1 (2 3 4 5) 6)");
+        Session.due("start without a program", none.machine.start(), false);
+        none.counts("without a program", 0, 0, 0, 0, 0, 0, 0);
+    }
+
+    private static void makesTheMachineIdle() {
+        Session s = new Session(60);
+        s.load("(+ 1 (* 2 3))");
+        s.machine.start();
+        s.run(3);
+        s.compiles("(! 1)", 4);
+        Session.due("state behind compile", s.machine.state(), 0);
+        Session.due("next behind compile", s.machine.next(), -1);
+        Session.due("run behind compile", s.run(9), 0);
+        Session.due("cells reached behind compile", s.machine.count(1), 4);
+        Session.due("S behind compile", s.machine.count(5), 0);
+        s.results("'a", "a");
+        s.compiles("'b", 3);
+        Session.due("shown behind compile", s.machine.shown(0), -1);
+    }
+
+    private static void roomForTheCode() {
+        String recursive = "(; (f 5) (f (\\ (n) (? (< n 1) 1 (* n (f (- n 1)))))))";
+        new Session(45).hasNoRoomFor(recursive);
+        new Session(46).compiles(recursive, 46);
+        new Session(47).compiles(recursive, 46);
+        String deep = "(1 1 1 1)";
+        for (int k = 1; k < 9; k++) {
+            deep = "(1 1 1 " + deep + ")";
+        }
+        new Session(110).hasNoRoomFor(deep);
+        new Session(111).compiles(deep, 111);
+    }
+}

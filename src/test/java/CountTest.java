@@ -1,0 +1,131 @@
+/** Promise 8: count. */
+public final class CountTest {
+    private static final String FACTORIAL = "(; (f 5) (f (\\ (n) (? (< n 1) 1 (* n (f (- n 1)))))))";
+
+    public static void main(String[] args) {
+        otherWhats();
+        beforeAFirstStart();
+        stepByStep();
+        callsAndChoices();
+        collections();
+        atTheEnd();
+        behindCompile();
+        functionsInAFrame();
+        Session.end();
+    }
+
+    private static void otherWhats() {
+        Session s = new Session(60);
+        int[] others = {-1, 7, 8, Integer.MIN_VALUE, Integer.MAX_VALUE};
+        for (int what : others) {
+            Session.due("count(" + what + ")", s.machine.count(what), -1);
+        }
+        s.load("1");
+        s.machine.start();
+        for (int what : others) {
+            Session.due("count(" + what + ")", s.machine.count(what), -1);
+        }
+    }
+
+    private static void beforeAFirstStart() {
+        Session s = new Session(60);
+        s.counts("without a program", 0, 0, 0, 0, 0, 0, 0);
+        s.load("(. 'a '(1 2))");
+        s.counts("before a first start", 8, 8, 0, 0, 0, 0, 0);
+        s.run(3);
+        s.counts("before a first start", 8, 8, 0, 0, 0, 0, 0);
+    }
+
+    private static void stepByStep() {
+        Session s = new Session(60);
+        s.load("(! (. (+ 1 2) 3))");
+        s.machine.start();
+        s.counts("at the beginning", 10, 10, 0, 0, 0, 0, 0);
+        s.run(1);
+        s.counts("behind 1 3", 11, 11, 0, 0, 1, 1, 0);
+        s.run(2);
+        s.counts("behind 1 1, 1 2", 13, 13, 0, 0, 3, 3, 0);
+        s.run(1);
+        s.counts("behind 15", 14, 12, 0, 0, 4, 2, 0);
+        s.run(1);
+        s.counts("behind 13", 16, 12, 0, 0, 5, 1, 0);
+        s.run(1);
+        s.counts("behind 12", 17, 11, 0, 0, 6, 1, 0);
+        s.run(1);
+        s.counts("behind 19", 17, 11, 0, 0, 7, 1, 0);
+    }
+
+    private static void callsAndChoices() {
+        Session s = new Session(60);
+        s.load("(. ((\\ (x) (? x x 2)) 1) 3)");
+        s.machine.start();
+        s.counts("at the beginning", 24, 24, 0, 0, 0, 0, 0);
+        s.run(5);
+        s.counts("behind 1 3, 1 NIL, 1 1, 13, 3", 31, 29, 0, 0, 5, 3, 0);
+        s.run(1);
+        s.counts("behind 4", 35, 30, 0, 0, 6, 0, 3);
+        s.run(1);
+        s.counts("behind 2", 36, 31, 0, 0, 7, 1, 3);
+        s.run(1);
+        s.counts("behind 8", 37, 31, 0, 0, 8, 0, 4);
+        s.run(1);
+        s.counts("behind 2", 38, 32, 0, 0, 9, 1, 4);
+        s.run(1);
+        s.counts("behind 9", 38, 31, 0, 0, 10, 1, 3);
+        s.run(1);
+        s.counts("behind 5", 39, 26, 0, 0, 11, 2, 0);
+    }
+
+    private static void collections() {
+        Session s = new Session(20);
+        s.load("(! (! (! (! (! (! (! (! '(1 1)))))))))");
+        s.machine.start();
+        s.run(7);
+        s.counts("with all cells used", 20, 14, 0, 0, 7, 1, 0);
+        s.run(1);
+        s.counts("behind a collection", 15, 14, 1, 6, 8, 1, 0);
+        s.run(200);
+        s.counts("at the end", 16, 14, 1, 6, 10, 1, 0);
+    }
+
+    private static void atTheEnd() {
+        Session s = new Session(120);
+        s.load(FACTORIAL);
+        s.machine.start();
+        s.run(40);
+        s.counts("in the middle", 103, 73, 0, 0, 40, 1, 15);
+        s.run(200);
+        s.counts("at the end", 69, 47, 2, 94, 95, 1, 0);
+        s.run(200);
+        s.counts("behind the end", 69, 47, 2, 94, 95, 1, 0);
+    }
+
+    private static void behindCompile() {
+        Session s = new Session(120);
+        s.load(FACTORIAL);
+        s.machine.start();
+        s.run(80);
+        s.load("'(1)");
+        Session.due("used cells behind compile", s.machine.count(0), 4);
+        Session.due("reached cells behind compile", s.machine.count(1), 4);
+        Session.due("S behind compile", s.machine.count(5), 0);
+        Session.due("D behind compile", s.machine.count(6), 0);
+        // Since the start, which is still the latest one.
+        Session.due("steps behind compile", s.machine.count(4), 80);
+        s.machine.start();
+        s.counts("behind the next start", 4, 4, 0, 0, 0, 0, 0);
+    }
+
+    private static void functionsInAFrame() {
+        Session s = new Session(60);
+        s.load("(; 1 (f (\\ () 2)))");
+        s.machine.start();
+        s.counts("at the beginning", 16, 16, 0, 0, 0, 0, 0);
+        s.run(5);
+        s.counts("behind 6, 1 NIL, 3, 13, 3", 24, 22, 0, 0, 5, 2, 0);
+        s.run(1);
+        s.counts("behind 7", 27, 22, 0, 0, 6, 0, 3);
+        s.run(2);
+        s.counts("behind 1, 5", 29, 17, 0, 0, 8, 1, 0);
+    }
+}

@@ -1,0 +1,211 @@
+/** Promise 4: position, for every place where a text can stop being a program. */
+public final class PositionTest {
+    public static void main(String[] args) {
+        latestCompile();
+        atoms();
+        data();
+        operations();
+        functions();
+        bindings();
+        calls();
+        depth();
+        unknownVariables();
+        Session.end();
+    }
+
+    private static void latestCompile() {
+        Session s = new Session(20);
+        Session.due("position before compile", s.machine.position(), -1);
+        s.fails("(+ 1", 4);
+        s.write("12");
+        s.machine.start();
+        s.run(-1);
+        Session.due("position behind other calls", s.machine.position(), 4);
+        Session.due("compile", s.compile(), 3);
+        Session.due("position behind compile", s.machine.position(), -1);
+        s.fails("(+ 1 y)", 5);
+        s.hasNoRoomFor("(1 (2 3 4 5) 6)");
+        Session.due("position behind IllegalStateException", s.machine.position(), -1);
+    }
+
+    private static void atoms() {
+        Session s = new Session(60);
+        s.fails("", 0);
+        s.fails(" 1", 0);
+        s.fails("1 ", 1);
+        s.fails("A", 0);
+        s.fails("{", 0);
+        s.fails("`", 0);
+        s.fails("/", 0);
+        s.fails(";", 0);
+        s.fails(")", 0);
+        s.fails("+1", 0);
+        s.fails("-", 1);
+        s.fails("-a", 1);
+        s.fails("--1", 1);
+        s.fails("12345", 4);
+        s.fails("-12345", 5);
+        s.fails("1a", 1);
+        s.fails("a1", 1);
+        s.fails("ab", 1);
+        s.fails("1)", 1);
+        s.compiles("-9999", 3);
+    }
+
+    private static void data() {
+        Session s = new Session(60);
+        s.fails("'", 1);
+        s.fails("''a", 1);
+        s.fails("' a", 1);
+        s.fails("'(", 2);
+        s.fails("'( )", 2);
+        s.fails("'(a", 3);
+        s.fails("'(a ", 4);
+        s.fails("'(a )", 4);
+        s.fails("'(a  b)", 4);
+        s.fails("'(ab)", 3);
+        s.fails("'(1-2)", 3);
+        s.fails("'(12345)", 6);
+        s.fails("'(- 1)", 3);
+        s.fails("'('a)", 2);
+        s.fails("'(a . b)", 4);
+        s.fails("'()()", 3);
+        s.fails("'(a b))", 6);
+    }
+
+    private static void operations() {
+        Session s = new Session(60);
+        String[] signs = {"+", "-", "*", "=", "<", "."};
+        for (String sign : signs) {
+            s.fails("(" + sign, 2);
+            s.fails("(" + sign + ")", 2);
+            s.fails("(" + sign + "a", 2);
+            s.fails("(" + sign + "  1 2)", 3);
+            s.fails("(" + sign + " 1)", 4);
+            s.fails("(" + sign + " 1 ", 5);
+            s.fails("(" + sign + " 1 2", 6);
+            s.fails("(" + sign + " 1 2 3)", 6);
+        }
+        String[] ofOne = {"^", "_", "!"};
+        for (String sign : ofOne) {
+            s.fails("(" + sign, 2);
+            s.fails("(" + sign + ")", 2);
+            s.fails("(" + sign + " )", 3);
+            s.fails("(" + sign + " 1 2)", 4);
+        }
+        s.fails("(? 1 2)", 6);
+        s.fails("(? 1 2 3 4)", 8);
+        s.fails("(+1 2)", 2);
+        s.fails("(-- 1 2)", 2);
+    }
+
+    private static void functions() {
+        Session s = new Session(60);
+        s.fails("(\\", 2);
+        s.fails("(\\(x) x)", 2);
+        s.fails("(\\ x x)", 3);
+        s.fails("(\\ (", 4);
+        s.fails("(\\ (1) 1)", 4);
+        s.fails("(\\ ( ) 1)", 4);
+        s.fails("(\\ (x ) 1)", 6);
+        s.fails("(\\ (xy) 1)", 5);
+        s.fails("(\\ (x x) 1)", 6);
+        s.fails("(\\ (x y x) 1)", 8);
+        s.fails("(\\ (x y y) 1)", 8);
+        s.fails("(\\ (x y z a) 1)", 9);
+        s.fails("(\\ (x))", 6);
+        s.fails("(\\ (x)x)", 6);
+        s.fails("(\\ () 1 2)", 7);
+        s.compiles("(\\ (x) (\\ (x) x))", 9);
+    }
+
+    private static void bindings() {
+        Session s = new Session(120);
+        s.fails("(:", 2);
+        s.fails("(: 1", 4);
+        s.fails("(: 1)", 4);
+        s.fails("(: 1 ", 5);
+        s.fails("(: 1 )", 5);
+        s.fails("(: 1 x)", 5);
+        s.fails("(: 1 ()", 6);
+        s.fails("(: 1 (1 2))", 6);
+        s.fails("(: 1 (x))", 7);
+        s.fails("(: 1 (x 1 2))", 9);
+        s.fails("(: 1 (x 1)", 10);
+        s.fails("(: 1 (x 1) )", 11);
+        s.fails("(: 1 (x 1) (x 2))", 12);
+        s.fails("(: 1 (x 1) (y 2) (x 3))", 18);
+        s.fails("(: 1 (x 1) (y 2) (z 3) (a 4))", 22);
+        s.fails("(: 1 (x 1)(y 2))", 10);
+        s.fails("(; 1 (x x))", 8);
+        s.fails("(; 1 (x 2))", 8);
+        s.fails("(; 1 (x '(1)))", 8);
+        s.fails("(; 1 (x (", 9);
+        s.fails("(; 1 (x (x)))", 9);
+        s.fails("(; 1 (x (+ 1 2)))", 9);
+        s.fails("(; 1 (x (: 1 (y 2))))", 9);
+        s.fails("(; 1 (x (\\ () 1)) (x (\\ () 1)))", 19);
+        s.fails("(; 1 (x (\\ () 1)) (y 1))", 21);
+        s.compiles("(: (: 1 (x 2)) (x (: 1 (x 3))))", 30);
+    }
+
+    private static void calls() {
+        Session s = new Session(60);
+        s.fails("(", 1);
+        s.fails("()", 1);
+        s.fails("( 1)", 1);
+        s.fails("(1", 2);
+        s.fails("(1 ", 3);
+        s.fails("(1 )", 3);
+        s.fails("(1  2)", 3);
+        s.fails("(1 2 3 4 5)", 8);
+        s.fails("(12345)", 5);
+        s.fails("(-1-)", 3);
+        s.fails("(1))", 3);
+        s.fails("((\\ () 1)", 9);
+        s.compiles("(-5)", 6);
+        s.compiles("(-5 1)", 9);
+        s.compiles("(- 5 1)", 6);
+    }
+
+    private static void depth() {
+        Session s = new Session(250);
+        s.compiles("(((((((((1)))))))))", 30);
+        s.fails("((((((((((1))))))))))", 9);
+        s.fails("((((((((((", 9);
+        s.fails("(((((((((", 9);
+        s.compiles("'((((((((()))))))))", 11);
+        s.fails("'(((((((((()))))))))", 10);
+        s.compiles("(! (! (! (! (! (! (! (! '(1)))))))))", 12);
+        s.fails("(! (! (! (! (! (! (! (! '((1)))))))))", 26);
+        s.fails("((((((((('()", 10);
+        // Where a bracket must come, but would be too deep, the error is there, not before.
+        s.fails("(((((((((\\", 10);
+        s.fails("(((((((((\\ ", 11);
+        s.fails("(((((((((\\ (", 11);
+        s.fails("(((((((((\\ x", 11);
+        s.compiles("((((((((\\ () 1))))))))", 27);
+        s.fails("(((((((((: 1 (x 1)))))))))))", 13);
+        s.fails("(((((((((: 1 x", 13);
+        s.compiles("((((((((: 1 (x 1)))))))))", 33);
+        s.fails("((((((((: 1 (x (1", 15);
+        s.fails("((((((((; 1 (x (\\ () 1)))))))))))", 15);
+        s.fails("((((((((; 1 (x 1)))))))))", 15);
+        s.fails("(((((((; 1 (x (\\ () 1))))))))))", 17);
+        s.compiles("((((((; 1 (x (\\ () 1))))))))", 31);
+    }
+
+    private static void unknownVariables() {
+        Session s = new Session(60);
+        s.fails("x", 0);
+        s.fails("(x", 2);
+        s.fails("(x)", 1);
+        s.fails("(. 1 (. b a))", 8);
+        s.fails("(b a)", 1);
+        s.fails("(: b (a c))", 3);
+        s.fails("(: 1 (a c) (b d))", 8);
+        s.fails("(; b (a (\\ () c)))", 3);
+        s.fails("(? 1 (\\ (x) y) z)", 12);
+        s.fails("(x x 12345)", 9);
+    }
+}

@@ -1,0 +1,99 @@
+/** Promise 10: shown. */
+public final class ShownTest {
+    public static void main(String[] args) {
+        values();
+        lists();
+        onlyInState2();
+        cutOff();
+        deepHeads();
+        Session.end();
+    }
+
+    private static void values() {
+        Session s = new Session(60);
+        s.results("0", "0");
+        s.results("-0", "0");
+        s.results("-9999", "-9999");
+        s.results("'a", "a");
+        s.results("'z", "z");
+        s.results("'()", "()");
+        s.results("(\\ (x) x)", "#");
+        Session.due("shown(-1)", s.machine.shown(-1), -1);
+        Session.due("shown(0)", s.machine.shown(0), '#');
+        Session.due("shown(1)", s.machine.shown(1), -1);
+        Session.due("shown of the least int", s.machine.shown(Integer.MIN_VALUE), -1);
+        Session.due("shown of the largest int", s.machine.shown(Integer.MAX_VALUE), -1);
+    }
+
+    private static void lists() {
+        Session s = new Session(120);
+        s.results("'(1)", "(1)");
+        s.results("'(a (1 -2) () b)", "(a (1 -2) () b)");
+        s.results("'((()))", "((()))");
+        s.results("'((a) b (c (d)))", "((a) b (c (d)))");
+        s.results("(. 1 2)", "(1 . 2)");
+        s.results("(. 1 (. 2 3))", "(1 2 . 3)");
+        s.results("(. (. 1 2) 3)", "((1 . 2) . 3)");
+        s.results("(. 'a '(b))", "(a b)");
+        s.results("(. '() '())", "(())");
+        s.results("(. (\\ () 1) (\\ () 2))", "(# . #)");
+        s.results("(. (. 1 'x) (. '() (. (\\ () 1) -7)))", "((1 . x) () # . -7)");
+    }
+
+    private static void onlyInState2() {
+        Session s = new Session(20);
+        Session.due("shown of a new object", s.machine.shown(0), -1);
+        s.load("12");
+        Session.due("shown behind compile", s.machine.shown(0), -1);
+        s.machine.start();
+        s.run(1);
+        Session.due("shown while it is running", s.machine.shown(0), -1);
+        s.run(1);
+        Session.due("shown at the end", s.shown(), "12");
+        s.machine.start();
+        Session.due("shown behind start", s.machine.shown(0), -1);
+        s.run(2);
+        s.fails("(", 1);
+        Session.due("shown behind what threw", s.shown(), "12");
+        s.ends("(^ 1)", 3, 2);
+        Session.due("shown in state 3", s.machine.shown(0), -1);
+        s.ends("((\\ () (1 2 3)))", 4, 2);
+        Session.due("shown in state 4", s.machine.shown(0), -1);
+    }
+
+    private static void cutOff() {
+        // 115 characters, then what is in the last brackets.
+        String start = "(" + "-9999 ".repeat(19);
+        showsBehind(start, "1 2", "1 2)");
+        showsBehind(start, "1 22", "1 22)");
+        showsBehind(start, "1 223", "1 223");
+        showsBehind(start, "1 2 3 4", "1 2 3");
+        showsBehind(start, "1 (2)", "1 (2)");
+        showsBehind(start, "1 -999", "1 -99");
+        showsBehind(start, "1 22 3", "1 22 ");
+        showsBehind(start, "1 a ()", "1 a (");
+    }
+
+    private static void showsBehind(String start, String last, String shown) {
+        Session s = new Session(250);
+        s.results("(; (f 19 '(" + last + ")) (f (\\ (n l) (? n (f (- n 1) (. -9999 l)) l))))", start + shown);
+        Session.due("shown(120)", s.machine.shown(120), -1);
+        Session.due("shown(121)", s.machine.shown(121), -1);
+    }
+
+    private static void deepHeads() {
+        Session s = new Session(250);
+        s.results("(; (f 20 'a) (f (\\ (n l) (? n (f (- n 1) (. l '())) l))))",
+                "(".repeat(20) + "a" + ")".repeat(20));
+        s.results("(; (f 20 'a) (f (\\ (n l) (? n (f (- n 1) (. l n)) l))))", deepPairs(20).substring(0, 120));
+        s.results("(; (f 15 'a) (f (\\ (n l) (? n (f (- n 1) (. l n)) l))))", deepPairs(15));
+    }
+
+    private static String deepPairs(int n) {
+        StringBuilder line = new StringBuilder("(".repeat(n)).append('a');
+        for (int k = n; k >= 1; k--) {
+            line.append(" . ").append(k).append(')');
+        }
+        return line.toString();
+    }
+}
