@@ -806,9 +806,14 @@ public final class PairMachine {
         }
 
         private void function(int node, int depth) {
-            enter(tree.firstPart(tree.part(node, 0)));
+            body(tree.part(node, 1), tree.firstPart(tree.part(node, 0)), depth);
+        }
+
+        /** Makes a function of an expression that knows the letter of a node and those of its followers. */
+        private void body(int node, int firstLetter, int depth) {
             code.instruction(Op.FUNCTION);
-            list(tree.part(node, 1), Op.RETURN, depth);
+            enter(firstLetter);
+            list(node, Op.RETURN, depth);
             leave();
         }
 
@@ -823,10 +828,7 @@ public final class PairMachine {
 
         private void bound(int node, int depth) {
             boundArguments(node, depth);
-            enter(tree.part(node, 1));
-            code.instruction(Op.FUNCTION);
-            list(tree.part(node, 0), Op.RETURN, depth);
-            leave();
+            body(tree.part(node, 0), tree.part(node, 1), depth);
             code.instruction(Op.APPLY);
         }
 
@@ -834,9 +836,9 @@ public final class PairMachine {
             code.instruction(Op.FRAME);
             enter(tree.part(node, 1));
             boundArguments(node, depth);
-            code.instruction(Op.FUNCTION);
-            list(tree.part(node, 0), Op.RETURN, depth);
             leave();
+            // The frame is there already when this function is made, and no other is put before it.
+            body(tree.part(node, 0), tree.part(node, 1), depth);
             code.instruction(Op.APPLY_IN_FRAME);
         }
 

@@ -64,6 +64,12 @@ public final class CompileTest {
         s.results("(; (f 1) (f (\\ (f) f)))", "1");
         s.results("(; (a) (a (\\ () (b))) (b (\\ () (c))) (c (\\ () 'z)))", "z");
         s.results("(: (; (f y) (f (\\ (x) (g (+ x y)))) (g (\\ (x) (* x y)))) (y 3))", "18");
+        s.results("((\\ (y) (+ (: x (x 1)) y)) 5)", "6");
+        s.results("((\\ (y) (+ (; (f) (f (\\ () 1))) y)) 5)", "6");
+        s.results("((\\ (y) (+ ((\\ (x) x) 1) y)) 5)", "6");
+        s.fails("(+ (: x (x 1)) x)", 15);
+        s.fails("(+ (; (f) (f (\\ () 1))) f)", 24);
+        s.fails("(+ ((\\ (x) x) 1) x)", 17);
         s.fails("(: x (y x))", 3);
         s.fails("(: x (x x))", 8);
         s.fails("(: y (x 1) (y x))", 14);

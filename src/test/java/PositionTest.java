@@ -179,6 +179,11 @@ public final class PositionTest {
         s.compiles("(! (! (! (! (! (! (! (! '(1)))))))))", 12);
         s.fails("(! (! (! (! (! (! (! (! '((1)))))))))", 26);
         s.fails("((((((((('()", 10);
+        s.compiles("'(1 " + "(".repeat(8) + ")".repeat(9), 12);
+        s.fails("'(1 " + "(".repeat(9) + ")".repeat(10), 12);
+        s.compiles("(((((((: 1 (x (2)))))))))", 33);
+        s.fails("(((((((: 1 (x ((2))))))))))", 15);
+        s.compiles("(? ".repeat(9) + "1" + " 2 3)".repeat(9), 84);
         // Where a bracket must come, but would be too deep, the error is there, not before.
         s.fails("(((((((((\\", 10);
         s.fails("(((((((((\\ ", 11);

@@ -1,4 +1,7 @@
-/** A PairMachine whose answers are compared with those that are due. */
+/**
+ * A PairMachine whose answers are compared with those that are due. A test makes a new one before it
+ * comes to 512 calls, behind which nothing is promised.
+ */
 final class Session {
     static final int BAD_ARGUMENT = -101;
     static final int BAD_STATE = -102;
@@ -124,8 +127,12 @@ final class Session {
 
     String shown() {
         StringBuilder line = new StringBuilder();
-        for (int k = 0; k < 200 && machine.shown(k) != PairMachine.NONE; k++) {
-            line.append((char) machine.shown(k));
+        for (int k = 0; k < 200; k++) {
+            int code = machine.shown(k);
+            if (code == PairMachine.NONE) {
+                break;
+            }
+            line.append((char) code);
         }
         return line.toString();
     }
