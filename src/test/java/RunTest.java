@@ -185,8 +185,10 @@ public final class RunTest {
     private static void needsBeforeWrongs() {
         // The pair that ^ would need is not there, so that its wrong value is not looked at.
         Session s = new Session(20);
-        s.ends("(^ '(1 1 1 1 1 1 1 1 1 1 1 1 1 1 1))", 4, 2);
-        s.counts("with all cells held", 20, 20, 1, 0, 2, 1, 0);
+        s.ends("(. (^ 'a) '(1 1 1 1 1 1 1 1 1 1 1))", 4, 3);
+        s.counts("with all cells held", 20, 20, 1, 0, 3, 2, 0);
+        s.ends("(. (^ 'a) '(1 1 1 1 1 1 1 1 1 1))", 3, 3);
+        s.counts("with one free cell", 19, 19, 0, 0, 3, 2, 0);
         s.ends("(+ (^ '(a 1 1 1 1 1 1 1)) (! 1))", 3, 5);
         s.counts("behind what was collected", 18, 18, 1, 2, 5, 2, 0);
     }
