@@ -9,11 +9,14 @@ public final class CountTest {
         callsAndChoices();
         collections();
         atTheEnd();
+        atEachEnd();
         behindCompile();
+        behindEachStart();
         functionsInAFrame();
         Session.end();
     }
 
+    /** "NONE for another what". */
     private static void otherWhats() {
         Session s = new Session(60);
         int[] others = {-1, 7, 8, Integer.MIN_VALUE, Integer.MAX_VALUE};
@@ -27,6 +30,7 @@ public final class CountTest {
         }
     }
 
+    /** "All are 0 before a first start, but used cells and those that can be reached". */
     private static void beforeAFirstStart() {
         Session s = new Session(60);
         s.counts("without a program", 0, 0, 0, 0, 0, 0, 0);
@@ -88,6 +92,7 @@ public final class CountTest {
         s.counts("at the end", 16, 14, 1, 6, 10, 1, 0);
     }
 
+    /** "S, E, C, D stay what they are when the machine ends". */
     private static void atTheEnd() {
         Session s = new Session(120);
         s.load(FACTORIAL);
@@ -100,6 +105,23 @@ public final class CountTest {
         s.counts("behind the end", 69, 47, 2, 94, 95, 1, 0);
     }
 
+    /** The same for each state that it can end in. */
+    private static void atEachEnd() {
+        Session s = new Session(60);
+        s.ends("(. 1 ((\\ (x) (+ x 'a)) 2))", 3, 8);
+        s.counts("in state 3", 30, 25, 0, 0, 8, 2, 3);
+        s.run(200);
+        s.counts("behind run in state 3", 30, 25, 0, 0, 8, 2, 3);
+        Session t = new Session(38);
+        t.ends("(. 1 ((\\ (x) (. x (. x (. x (. x (. x x)))))) 2))", 4, 8);
+        t.counts("in state 4", 37, 37, 3, 5, 8, 2, 3);
+        t.run(200);
+        t.counts("behind run in state 4", 37, 37, 3, 5, 8, 2, 3);
+        s.ends("7", 2, 2);
+        s.counts("in state 2", 4, 4, 0, 0, 2, 1, 0);
+    }
+
+    /** "And are NIL before a first start and behind compile". */
     private static void behindCompile() {
         Session s = new Session(120);
         s.load(FACTORIAL);
@@ -114,6 +136,24 @@ public final class CountTest {
         Session.due("steps behind compile", s.machine.count(4), 80);
         s.machine.start();
         s.counts("behind the next start", 4, 4, 0, 0, 0, 0, 0);
+    }
+
+    /** "Since the start": the latest one, whether there was another program between or not. */
+    private static void behindEachStart() {
+        Session s = new Session(120);
+        s.load(FACTORIAL);
+        for (int k = 0; k < 3; k++) {
+            s.machine.start();
+            s.counts("behind start", 46, 46, 0, 0, 0, 0, 0);
+            Session.due("steps", s.run(80), 80);
+            Session.due("collections", s.machine.count(2), 1);
+            Session.due("whether cells were taken back", s.machine.count(3) > 0, true);
+        }
+        s.load("(! 1)");
+        s.machine.start();
+        s.counts("behind start of another program", 4, 4, 0, 0, 0, 0, 0);
+        s.run(2);
+        s.counts("behind its steps", 6, 5, 0, 0, 2, 1, 0);
     }
 
     private static void functionsInAFrame() {

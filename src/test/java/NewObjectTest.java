@@ -7,6 +7,7 @@ public final class NewObjectTest {
         Session.end();
     }
 
+    /** "No program; idle, all cells free." */
     private static void emptyAndIdle() {
         Session s = new Session(60);
         Session.due("state of a new object", s.machine.state(), 0);
@@ -19,6 +20,7 @@ public final class NewObjectTest {
         Session.due("NONE", PairMachine.NONE, -1);
     }
 
+    /** "SIZE is size, but 20 if that is less". */
     private static void smallSizes() {
         int[] small = {Integer.MIN_VALUE, -1, 0, 1, 19, 20};
         for (int size : small) {
@@ -27,8 +29,11 @@ public final class NewObjectTest {
         }
         new Session(21).compiles(list(18), 21);
         new Session(21).hasNoRoomFor(list(19));
+        new Session(49).hasNoRoomFor(list(47));
+        new Session(50).compiles(list(47), 50);
     }
 
+    /** "and 250 if that is more". */
     private static void largeSizes() {
         Session.due("size of 248", mostUsed(248), 248);
         Session.due("size of 249", mostUsed(249), 249);

@@ -13,6 +13,7 @@ public final class PositionTest {
         Session.end();
     }
 
+    /** "If compile threw IllegalArgumentException latest; NONE otherwise". */
     private static void latestCompile() {
         Session s = new Session(20);
         Session.due("position before compile", s.machine.position(), -1);
@@ -26,8 +27,12 @@ public final class PositionTest {
         s.fails("(+ 1 y)", 5);
         s.hasNoRoomFor("(1 (2 3 4 5) 6)");
         Session.due("position behind IllegalStateException", s.machine.position(), -1);
+        s.fails("(x", 2);
+        s.fails("(x)", 1);
+        Session.due("position once more", s.machine.position(), 1);
     }
 
+    /** "A number (perhaps -, then 1 to 4 digits), a variable (a letter a .. z)". */
     private static void atoms() {
         Session s = new Session(60);
         s.fails("", 0);
@@ -52,6 +57,7 @@ public final class PositionTest {
         s.compiles("-9999", 3);
     }
 
+    /** "Data with a blank between each two in brackets, perhaps none". */
     private static void data() {
         Session s = new Session(60);
         s.fails("'", 1);
@@ -73,6 +79,7 @@ public final class PositionTest {
         s.fails("'(a b))", 6);
     }
 
+    /** "One of these in brackets, with one blank between the parts". */
     private static void operations() {
         Session s = new Session(60);
         String[] signs = {"+", "-", "*", "=", "<", "."};
@@ -99,6 +106,7 @@ public final class PositionTest {
         s.fails("(-- 1 2)", 2);
     }
 
+    /** "0 to 3 different letters in brackets, a blank between each two". */
     private static void functions() {
         Session s = new Session(60);
         s.fails("(\\", 2);
@@ -119,6 +127,7 @@ public final class PositionTest {
         s.compiles("(\\ (x) (\\ (x) x))", 9);
     }
 
+    /** "1 to 3 BINDINGS (a letter and an expression, in brackets), all letters different". */
     private static void bindings() {
         Session s = new Session(120);
         s.fails("(:", 2);
@@ -146,9 +155,14 @@ public final class PositionTest {
         s.fails("(; 1 (x (: 1 (y 2))))", 9);
         s.fails("(; 1 (x (\\ () 1)) (x (\\ () 1)))", 19);
         s.fails("(; 1 (x (\\ () 1)) (y 1))", 21);
+        s.fails("(; 1)", 4);
+        s.fails("(; 1 )", 5);
+        s.fails("(; 1 (x (\\ () 1)) (y (\\ () 1)) (y (\\ () 1)))", 32);
+        s.fails("(; 1 (x (\\ () 1)) (y (\\ () 1)) (z (\\ () 1)) (a (\\ () 1)))", 43);
         s.compiles("(: (: 1 (x 2)) (x (: 1 (x 3))))", 30);
     }
 
+    /** "An expression (..) and 0 to 3 more". */
     private static void calls() {
         Session s = new Session(60);
         s.fails("(", 1);
@@ -168,6 +182,7 @@ public final class PositionTest {
         s.compiles("(- 5 1)", 6);
     }
 
+    /** "Brackets are at most 9 deep in one another". */
     private static void depth() {
         Session s = new Session(250);
         s.compiles("(((((((((1)))))))))", 30);
@@ -200,6 +215,7 @@ public final class PositionTest {
         s.compiles("((((((; 1 (x (\\ () 1))))))))", 31);
     }
 
+    /** "A variable is not known where it stands, the first such place is the error". */
     private static void unknownVariables() {
         Session s = new Session(60);
         s.fails("x", 0);

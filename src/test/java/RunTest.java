@@ -1,9 +1,16 @@
 /** Promise 6: run, and the steps that it takes. */
 public final class RunTest {
+    /** Programs that end in these states, or are not started, or are still running behind two steps. */
+    private static final String[] ENDS = {"(! 1)", "(! (! 1))", "(! 1)", "(+ 'a 1)", "((\\ () (1 2 3)))"};
+
     public static void main(String[] args) {
         numberOfSteps();
         wrongNumbers();
+        wrongNumbersInEachState();
+        whatIsNotRunning();
+        theLastStepCounts();
         arithmetic();
+        intsWrap();
         pairs();
         comparisons();
         choices();
@@ -15,6 +22,7 @@ public final class RunTest {
         Session.end();
     }
 
+    /** "Up to n steps, as long as it is running: how many". */
     private static void numberOfSteps() {
         Session s = new Session(250);
         s.load("(+ 1 (* 2 3))");
@@ -34,6 +42,7 @@ public final class RunTest {
         Session.due("steps", s.machine.count(4), 299);
     }
 
+    /** "IllegalArgumentException if n is not 0 .. 200". */
     private static void wrongNumbers() {
         Session s = new Session(60);
         int[] wrong = {-1, 201, 1000, Integer.MIN_VALUE, Integer.MAX_VALUE};
@@ -47,6 +56,93 @@ public final class RunTest {
         }
         Session.due("steps", s.machine.count(4), 0);
         Session.due("run(200)", s.run(200), 4);
+    }
+
+    /** The same where no step would be taken; and nothing changes. */
+    private static void wrongNumbersInEachState() {
+        for (int state = 0; state < ENDS.length; state++) {
+            Session s = inState(state);
+            int next = s.machine.next();
+            String shown = s.shown();
+            int steps = s.machine.count(4);
+            Session.due("run(-1) in state " + state, s.run(-1), Session.BAD_ARGUMENT);
+            Session.due("run(201) in state " + state, s.run(201), Session.BAD_ARGUMENT);
+            Session.due("state behind run", s.machine.state(), state);
+            Session.due("next behind run in state " + state, s.machine.next(), next);
+            Session.due("steps behind run in state " + state, s.machine.count(4), steps);
+            Session.due("shown behind run in state " + state, s.shown(), shown);
+            Session.due("position behind run in state " + state, s.machine.position(), -1);
+        }
+    }
+
+    private static void whatIsNotRunning() {
+        for (int state = 0; state < ENDS.length; state++) {
+            Session s = inState(state);
+            int steps = s.machine.count(4);
+            Session.due("run(0) in state " + state, s.run(0), 0);
+            int want = state == 1 ? 1 : 0;
+            Session.due("run(1) in state " + state, s.run(1), want);
+            Session.due("steps behind run(1) in state " + state, s.machine.count(4), steps + want);
+            Session.due("run(200) in state " + state, s.run(200), want);
+        }
+    }
+
+    private static Session inState(int state) {
+        Session s = new Session(20);
+        s.load(ENDS[state]);
+        if (state != 0) {
+            s.machine.start();
+            s.run(state == 1 ? 2 : 200);
+        }
+        Session.due("state of " + ENDS[state], s.machine.state(), state);
+        return s;
+    }
+
+    /** "One that ends it in state 2, 3 or 4 counts". */
+    private static void theLastStepCounts() {
+        int[] steps = {3, 3, 2};
+        for (int state = 2; state < ENDS.length; state++) {
+            int all = steps[state - 2];
+            for (int n = 0; n <= 4; n++) {
+                Session s = new Session(20);
+                s.load(ENDS[state]);
+                s.machine.start();
+                Session.due("run(" + n + ") of " + ENDS[state], s.run(n), Math.min(n, all));
+                Session.due("steps of it", s.machine.count(4), Math.min(n, all));
+                Session.due("state behind it", s.machine.state(), n < all ? 1 : state);
+                Session.due("run(200) behind it", s.run(200), Math.max(all - n, 0));
+                Session.due("steps of all", s.machine.count(4), all);
+            }
+        }
+    }
+
+    /** "Ints wrap". */
+    private static void intsWrap() {
+        // x is 2 to the 30th, so that (+ x x) is the least int and (- (+ x x) 1) the largest.
+        wraps("(+ x x)", "-2147483648");
+        wraps("(- (+ x x) 1)", "2147483647");
+        wraps("(+ (- (+ x x) 1) 1)", "-2147483648");
+        wraps("(- 0 (+ x x))", "-2147483648");
+        wraps("(- x (- 0 x))", "-2147483648");
+        wraps("(* x 2)", "-2147483648");
+        wraps("(* x 3)", "-1073741824");
+        wraps("(* x 4)", "0");
+        wraps("(* x x)", "0");
+        wraps("(* (+ x x) -1)", "-2147483648");
+        wraps("(* (- (+ x x) 1) 2)", "-2");
+        wraps("(* (- (+ x x) 1) (- (+ x x) 1))", "1");
+        wraps("(< (+ x x) 1)", "1");
+        wraps("(< 1 (+ x x))", "0");
+        wraps("(< (+ x x) (- (+ x x) 1))", "1");
+        wraps("(< (- (+ x x) 1) (+ x x))", "0");
+        wraps("(= (+ x x) (* -2 x))", "1");
+        wraps("(= (* x 4) 0)", "1");
+        wraps("(? (* x 4) 1 2)", "2");
+        wraps("(? (+ x x) 1 2)", "1");
+    }
+
+    private static void wraps(String body, String shown) {
+        new Session(120).results("(: " + body + " (x (* 8192 (* 8192 16))))", shown);
     }
 
     private static void arithmetic() {
@@ -126,6 +222,7 @@ public final class RunTest {
         s.results("((\\ (x) (. (; (f 1) (f (\\ (y) y))) x)) 9)", "(1 . 9)");
     }
 
+    /** "What must be and is not, and a place in 2 that the list has not". */
     private static void wrongValues() {
         Session s = new Session(120);
         s.ends("(^ 5)", 3, 2);
@@ -153,6 +250,7 @@ public final class RunTest {
         nothingOfTheStepIsDone();
     }
 
+    /** "Nothing of that step is done". */
     private static void nothingOfTheStepIsDone() {
         Session s = new Session(60);
         s.ends("(+ 1 (+ 2 'a))", 3, 4);
@@ -165,6 +263,7 @@ public final class RunTest {
         s.counts("behind a wrong head", 9, 9, 0, 0, 3, 2, 0);
     }
 
+    /** "If there are still fewer, the machine is OUT of cells (state 4)". */
     private static void outOfCells() {
         Session s = new Session(60);
         s.ends("(; (f 9) (f (\\ (n) (? (< n 1) 1 (* n (f (- n 1)))))))", 4, 18);
@@ -182,6 +281,7 @@ public final class RunTest {
         u.counts("with one free cell", 20, 20, 0, 0, 2, 1, 0);
     }
 
+    /** "Nothing of that step is done (but what was collected)". */
     private static void needsBeforeWrongs() {
         // The pair that ^ would need is not there, so that its wrong value is not looked at.
         Session s = new Session(20);

@@ -4,7 +4,9 @@ public final class ShownTest {
         values();
         lists();
         onlyInState2();
+        noSuchCharacter();
         cutOff();
+        cutOffInEachForm();
         deepHeads();
         Session.end();
     }
@@ -40,6 +42,7 @@ public final class ShownTest {
         s.results("(. (. 1 'x) (. '() (. (\\ () 1) -7)))", "((1 . x) () # . -7)");
     }
 
+    /** "NONE if the state is not 2". */
     private static void onlyInState2() {
         Session s = new Session(20);
         Session.due("shown of a new object", s.machine.shown(0), -1);
@@ -61,6 +64,23 @@ public final class ShownTest {
         Session.due("shown in state 4", s.machine.shown(0), -1);
     }
 
+    /** "Or there is none". */
+    private static void noSuchCharacter() {
+        String[] programs = {"7", "-12", "'()", "'(a b)"};
+        int[] lengths = {1, 3, 2, 5};
+        for (int k = 0; k < programs.length; k++) {
+            Session s = new Session(20);
+            s.ends(programs[k], 2, 2);
+            int[] none = {Integer.MIN_VALUE, -1, lengths[k], lengths[k] + 1, 119, 120, 121, Integer.MAX_VALUE};
+            for (int at : none) {
+                Session.due("shown(" + at + ") of " + programs[k], s.machine.shown(at), -1);
+            }
+            Session.due("the first of " + programs[k], s.machine.shown(0) > 0, true);
+            Session.due("the last of " + programs[k], s.machine.shown(lengths[k] - 1) > 0, true);
+        }
+    }
+
+    /** "120 characters at most, what is behind is cut off". */
     private static void cutOff() {
         // 115 characters, then what is in the last brackets.
         String start = "(" + "-9999 ".repeat(19);
@@ -79,6 +99,30 @@ public final class ShownTest {
         s.results("(; (f 19 '(" + last + ")) (f (\\ (n l) (? n (f (- n 1) (. -9999 l)) l))))", start + shown);
         Session.due("shown(120)", s.machine.shown(120), -1);
         Session.due("shown(121)", s.machine.shown(121), -1);
+    }
+
+    /** The end at every place of a pair, be its tail a list or not. */
+    private static void cutOffInEachForm() {
+        for (int digits = 2; digits <= 8; digits++) {
+            showsBehindDigits(digits, "(. 'a 'b)", "(a . b)");
+            showsBehindDigits(digits, "(. 1 -7)", "(1 . -7)");
+            showsBehindDigits(digits, "'(a 12)", "(a 12)");
+            showsBehindDigits(digits, "(. '() f)", "(() . #)");
+        }
+    }
+
+    /** Shows 109 characters, two numbers that have so many digits together, and then a pair. */
+    private static void showsBehindDigits(int digits, String pair, String shown) {
+        String first = "1234".substring(0, digits / 2);
+        String second = "5678".substring(0, digits - digits / 2);
+        Session s = new Session(250);
+        s.load("(; (f 18 (. " + first + " (. " + second + " (. " + pair + " '()))))"
+                + " (f (\\ (n l) (? n (f (- n 1) (. -9999 l)) l))))");
+        s.machine.start();
+        s.finish();
+        String all = "(" + "-9999 ".repeat(18) + first + " " + second + " " + shown + ")";
+        Session.due("state behind " + pair, s.machine.state(), 2);
+        Session.due("result with " + pair, s.shown(), all.substring(0, Math.min(120, all.length())));
     }
 
     private static void deepHeads() {

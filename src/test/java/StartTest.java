@@ -4,11 +4,13 @@ public final class StartTest {
 
     public static void main(String[] args) {
         needsAProgram();
+        changesNothingWithoutAProgram();
         beginsAnew();
         beginsBehindEachEnd();
         Session.end();
     }
 
+    /** "False if there is no program". */
     private static void needsAProgram() {
         Session s = new Session(60);
         Session.due("start without a program", s.machine.start(), false);
@@ -21,6 +23,7 @@ public final class StartTest {
         Session.due("state behind start", s.machine.state(), 1);
     }
 
+    /** "The machine is at the beginning, running: true". */
     private static void beginsAnew() {
         Session s = new Session(120);
         s.load(FACTORIAL);
@@ -39,6 +42,26 @@ public final class StartTest {
         s.counts("at the beginning", 46, 46, 0, 0, 0, 0, 0);
         Session.due("steps", s.run(200), 95);
         Session.due("result", s.shown(), "120");
+    }
+
+    private static void changesNothingWithoutAProgram() {
+        String[] texts = {"", "(+ 1", "(+ 1 x)", "(1 (2 3 4 5) 6)"};
+        int[] positions = {0, 4, 5, -1};
+        for (int k = 0; k < texts.length; k++) {
+            Session s = new Session(20);
+            s.write(texts[k]);
+            Session.due("whether " + texts[k] + " throws", s.compile() < 0, true);
+            s.write("(! 7");
+            Session.due("start behind " + texts[k], s.machine.start(), false);
+            Session.due("position behind start", s.machine.position(), positions[k]);
+            Session.due("state behind start", s.machine.state(), 0);
+            Session.due("next behind start", s.machine.next(), -1);
+            Session.due("run behind start", s.run(200), 0);
+            s.counts("behind start", 0, 0, 0, 0, 0, 0, 0);
+            s.write(")");
+            Session.due("compile of (! 7)", s.compile(), 4);
+            Session.due("start behind (! 7)", s.machine.start(), true);
+        }
     }
 
     private static void beginsBehindEachEnd() {
