@@ -127,12 +127,15 @@ public final class CountTest {
         s.load(FACTORIAL);
         s.machine.start();
         s.run(80);
+        int takenBack = s.machine.count(3);
         s.load("'(1)");
         Session.due("used cells behind compile", s.machine.count(0), 4);
         Session.due("reached cells behind compile", s.machine.count(1), 4);
         Session.due("S behind compile", s.machine.count(5), 0);
         Session.due("D behind compile", s.machine.count(6), 0);
         // Since the start, which is still the latest one.
+        Session.due("collections behind compile", s.machine.count(2), 1);
+        Session.due("cells taken back behind compile", s.machine.count(3), takenBack);
         Session.due("steps behind compile", s.machine.count(4), 80);
         s.machine.start();
         s.counts("behind the next start", 4, 4, 0, 0, 0, 0, 0);

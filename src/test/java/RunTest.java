@@ -13,6 +13,7 @@ public final class RunTest {
         intsWrap();
         pairs();
         comparisons();
+        whatIsTakenOffS();
         choices();
         functions();
         recursion();
@@ -190,6 +191,43 @@ public final class RunTest {
         s.results("(: (= x x) (x '(1)))", "0");
         s.results("(: (= x x) (x (\\ () 1)))", "0");
         s.results("(: (= x x) (x 'q))", "1");
+    }
+
+    /** Each instruction takes as many values off S as the document tells, and leaves those below. */
+    private static void whatIsTakenOffS() {
+        leavesBelow("1", 1, "1");
+        leavesBelow("(^ '(5 6))", 2, "5");
+        leavesBelow("(_ '(5 6))", 2, "(6)");
+        leavesBelow("(! 5)", 2, "1");
+        leavesBelow("(. 5 6)", 3, "(5 . 6)");
+        leavesBelow("(= 5 6)", 3, "0");
+        leavesBelow("(+ 5 6)", 3, "11");
+        leavesBelow("(- 5 6)", 3, "-1");
+        leavesBelow("(* 5 6)", 3, "30");
+        leavesBelow("(< 5 6)", 3, "1");
+        leavesBelow("(\\ () 1)", 1, "#");
+        leavesBelow("(? 5 6 7)", 4, "6");
+        leavesBelow("((\\ (x) x) 5)", 7, "5");
+        leavesBelow("(: x (x 5))", 7, "5");
+        leavesBelow("(; 5 (f (\\ () 6)))", 8, "5");
+    }
+
+    /** Runs an expression that takes so many steps, with one value below it on S and with three. */
+    private static void leavesBelow(String expression, int steps, String shown) {
+        Session s = new Session(120);
+        s.load("(. " + expression + " (. 'b 'c))");
+        s.machine.start();
+        s.run(3 + steps);
+        Session.due("values on S behind " + expression, s.machine.count(5), 2);
+        s.finish();
+        Session.due("result with " + expression, s.shown(), "(" + shown + " b . c)");
+        Session t = new Session(120);
+        t.load("(+ 1 (* 2 (^ (. " + expression + " 3))))");
+        t.machine.start();
+        t.run(3 + steps);
+        Session.due("values on S behind " + expression, t.machine.count(5), 4);
+        t.run(2);
+        Session.due("values on S with a pair made and taken apart", t.machine.count(5), 3);
     }
 
     private static void choices() {

@@ -8,6 +8,7 @@ public final class ShownTest {
         cutOff();
         cutOffInEachForm();
         deepHeads();
+        deeperThanTheLineIsLong();
         Session.end();
     }
 
@@ -131,6 +132,30 @@ public final class ShownTest {
                 "(".repeat(20) + "a" + ")".repeat(20));
         s.results("(; (f 20 'a) (f (\\ (n l) (? n (f (- n 1) (. l n)) l))))", deepPairs(20).substring(0, 120));
         s.results("(; (f 15 'a) (f (\\ (n l) (? n (f (- n 1) (. l n)) l))))", deepPairs(15));
+    }
+
+    /** A function that is called 125 times over: each time a pair with what was there as its head. */
+    private static void deeperThanTheLineIsLong() {
+        String calls = "(: ((d (d (d f))) 1) (d (\\ (f) (\\ (x) (f (f (f (f (f x)))))))) (f (\\ (x) (. x 2))))";
+        new Session(250).results(calls, "(".repeat(120));
+        String fewer = calls.replace("(d (d (d f)))", "(d (d f))");
+        new Session(250).results(fewer, deepTwos(25).substring(0, 120));
+        new Session(250).results(fewer.replace("(. x 2)", "(. x x)"), tree(25));
+    }
+
+    private static String deepTwos(int n) {
+        return "(".repeat(n) + "1" + " . 2)".repeat(n);
+    }
+
+    /** The first 120 characters of pairs that are head and tail of the next, so many deep. */
+    private static String tree(int depth) {
+        String part = "(1 . 1)";
+        for (int k = 2; k <= depth; k++) {
+            // A tail that is a pair goes on with the list. What is cut off here comes behind the 120 too.
+            String next = "(" + part + " " + part.substring(1);
+            part = next.substring(0, Math.min(200, next.length()));
+        }
+        return part.substring(0, 120);
     }
 
     private static String deepPairs(int n) {
