@@ -5,8 +5,6 @@ public final class CompileTest {
 
     public static void main(String[] args) {
         cellsOfTheForms();
-        orderOfTheInstructions();
-        knownLetters();
         emptyText();
         emptiesTheText();
         whatThrowsLeavesTheMachine();
@@ -45,47 +43,6 @@ public final class CompileTest {
         s.compiles("(: x (x 2) (y 3) (z 4))", 18);
         s.compiles("(; 1 (x (\\ () 2)))", 16);
         s.compiles("(; 1 (x (\\ () 2)) (y (\\ () y)) (z (\\ () x)))", 28);
-    }
-
-    private static void orderOfTheInstructions() {
-        Session s = new Session(250);
-        s.traces("(+ (! 1) (* 2 3))", "1 12 1 1 17 15 19");
-        s.traces("(- 1 (^ '(2)))", "1 1 10 16 19");
-        s.traces("(= (< 1 2) 3)", "1 1 18 1 14 19");
-        s.traces("(. (! 1) (_ '(2)))", "1 11 1 12 13 19");
-        s.traces("(? 1 (! 2) 3)", "1 8 1 12 9 19");
-        s.traces("(? 0 2 (! (! 3)))", "1 8 1 12 12 9 19");
-        s.traces("((\\ (x y) x) (! 1) 2)", "1 1 13 1 12 13 3 4 2 5 19");
-        s.traces("(: (+ x y) (x (! 1)) (y 2))", "1 1 13 1 12 13 3 4 2 2 15 5 19");
-        s.traces("(; (f 1) (f (\\ (n) n)))", "6 1 3 13 3 7 1 1 13 2 4 2 5 5 19");
-    }
-
-    private static void knownLetters() {
-        Session s = new Session(250);
-        s.results("(((\\ (a b c) (\\ (d e) (. a (. b (. c (. d e)))))) 1 2 3) 4 5)", "(1 2 3 4 . 5)");
-        s.results("((\\ (x) ((\\ (x) x) (+ x 1))) 5)", "6");
-        s.results("((\\ (x) ((\\ () x))) 5)", "5");
-        s.results("(: (: (. x y) (x y) (y x)) (x 1) (y 2))", "(2 . 1)");
-        s.results("(: (: (+ x y) (x (* x 10))) (x 1) (y 2))", "12");
-        s.results("((\\ (x) (; (f x) (f (\\ (n) (. x n))))) 3)", "(3 . 3)");
-        s.results("(; (f 1) (f (\\ (f) f)))", "1");
-        s.results("(; (a) (a (\\ () (b))) (b (\\ () (c))) (c (\\ () 'z)))", "z");
-        s.results("(: (; (f y) (f (\\ (x) (g (+ x y)))) (g (\\ (x) (* x y)))) (y 3))", "18");
-        s.results("((\\ (y) (+ (: x (x 1)) y)) 5)", "6");
-        s.results("((\\ (y) (+ (; (f) (f (\\ () 1))) y)) 5)", "6");
-        s.results("((\\ (y) (+ ((\\ (x) x) 1) y)) 5)", "6");
-        s.fails("(+ (: x (x 1)) x)", 15);
-        s.fails("(+ (; (f) (f (\\ () 1))) f)", 24);
-        s.fails("(+ ((\\ (x) x) 1) x)", 17);
-        s.fails("(: x (y x))", 3);
-        s.fails("(: x (x x))", 8);
-        s.fails("(: y (x 1) (y x))", 14);
-        s.fails("((\\ (x) x) x)", 11);
-        s.fails("(. ((\\ (x) x) 1) (\\ (y) x))", 24);
-        s.fails("(; 1 (f (\\ (n) m)))", 15);
-        s.fails("(. (; 1 (f (\\ () f))) f)", 22);
-        s.fails("(. a b)", 3);
-        s.fails("(1 2 a b)", 5);
     }
 
     /** A text that is empty is no program. */

@@ -50,6 +50,8 @@ public final class NeedsTest {
         }
         exactlyWhatIsNeeded();
         whatIsReached();
+        outOfCells();
+        needsBeforeWrongs();
         Session.end();
     }
 
@@ -144,5 +146,35 @@ public final class NeedsTest {
             }
         }
         Session.due("whether " + program + " ends with collections", isDoneWithCollections, true);
+    }
+
+    /** "If there are still fewer, the machine is OUT of cells (state 4)". */
+    private static void outOfCells() {
+        Session s = new Session(60);
+        s.ends("(; (f 9) (f (\\ (n) (? (< n 1) 1 (* n (f (- n 1)))))))", 4, 18);
+        s.counts("out of cells", 60, 60, 6, 12, 18, 2, 7);
+        Session.due("run out of cells", s.run(9), 0);
+        Session t = new Session(250);
+        t.load("(; (f) (f (\\ () (f))))");
+        t.machine.start();
+        t.finish();
+        Session.due("state of what never ends", t.machine.state(), 4);
+        Session u = new Session(20);
+        u.ends("'(1 1 1 1 1 1 1 1 1 1 1 1 1 1 1 1 1)", 4, 1);
+        u.counts("without a free cell", 20, 20, 1, 0, 1, 0, 0);
+        u.ends("'(1 1 1 1 1 1 1 1 1 1 1 1 1 1 1 1)", 2, 2);
+        u.counts("with one free cell", 20, 20, 0, 0, 2, 1, 0);
+    }
+
+    /** "Nothing of that step is done (but what was collected)". */
+    private static void needsBeforeWrongs() {
+        // The pair that ^ would need is not there, so that its wrong value is not looked at.
+        Session s = new Session(20);
+        s.ends("(. (^ 'a) '(1 1 1 1 1 1 1 1 1 1 1))", 4, 3);
+        s.counts("with all cells held", 20, 20, 1, 0, 3, 2, 0);
+        s.ends("(. (^ 'a) '(1 1 1 1 1 1 1 1 1 1))", 3, 3);
+        s.counts("with one free cell", 19, 19, 0, 0, 3, 2, 0);
+        s.ends("(+ (^ '(a 1 1 1 1 1 1 1)) (! 1))", 3, 5);
+        s.counts("behind what was collected", 18, 18, 1, 2, 5, 2, 0);
     }
 }

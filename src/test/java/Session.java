@@ -149,6 +149,16 @@ final class Session {
         due("instructions of " + text, line.toString(), instructions);
     }
 
+    /** Takes a step, with this instruction, that uses so many cells and leaves so many values on S and D. */
+    void steps(int op, int cells, int onS, int onD) {
+        int used = machine.count(0);
+        due("next", machine.next(), op);
+        due("run(1)", run(1), 1);
+        due("cells that " + op + " uses", machine.count(0) - used, cells);
+        due("values on S behind " + op, machine.count(5), onS);
+        due("values on D behind " + op, machine.count(6), onD);
+    }
+
     /** What count answers for 0 .. 6. */
     void counts(String when, int... want) {
         for (int what = 0; what < want.length; what++) {
