@@ -5,6 +5,7 @@ public final class CompileTest {
 
     public static void main(String[] args) {
         cellsOfTheForms();
+        noProgram();
         emptyText();
         emptiesTheText();
         whatThrowsLeavesTheMachine();
@@ -43,6 +44,19 @@ public final class CompileTest {
         s.compiles("(: x (x 2) (y 3) (z 4))", 18);
         s.compiles("(; 1 (x (\\ () 2)))", 16);
         s.compiles("(; 1 (x (\\ () 2)) (y (\\ () y)) (z (\\ () x)))", 28);
+    }
+
+    /** "IllegalArgumentException if it is none, or names a variable that is not known". */
+    private static void noProgram() {
+        Session s = new Session(60);
+        s.fails("(+ 1)", 4);
+        s.fails("+ 1 2", 0);
+        s.fails("1 2", 1);
+        s.fails("(+ 1 2", 6);
+        s.fails("(+ 1 2))", 7);
+        s.fails("(+ 1 x)", 5);
+        s.fails("(\\ (y) x)", 7);
+        s.compiles("(\\ (x) x)", 6);
     }
 
     /** A text that is empty is no program. */

@@ -9,6 +9,7 @@ public final class ReadmeTest {
         String readme = Files.readString(Path.of("README.md"));
         tellsEachMethod(readme);
         theExample(readme);
+        theError(readme);
         theLanguage(readme);
         Session.end();
     }
@@ -37,6 +38,19 @@ public final class ReadmeTest {
         says(readme, "machine.count(0);", "" + machine.count(0));
         says(readme, "machine.shown(0);", "" + machine.shown(0));
         says(readme, "machine.shown(1);", "" + machine.shown(1));
+    }
+
+    private static void theError(String readme) {
+        PairMachine machine = new PairMachine(120);
+        says(readme, "machine.write(0x282B203129L);", "" + machine.write(0x282B203129L));
+        boolean throwsIt = false;
+        try {
+            machine.compile();
+        } catch (IllegalArgumentException e) {
+            throwsIt = true;
+        }
+        Session.due("whether compile throws", throwsIt, true);
+        says(readme, "int at = machine.position();", "" + machine.position());
     }
 
     private static void says(String readme, String call, String answer) {
